@@ -1,4 +1,4 @@
-/** A film on a reel, counted by its holes, and the shows that a choosy projectionist gives of it. */
+/** A film on a reel, counted by its holes, and the shows that a projectionist gives of it. */
 public final class HoleReel {
     public static final int UNKNOWN = -1;
     public static final int BAD_VALUE = -2;

@@ -11,6 +11,7 @@ public final class HistoryTest {
         undoOfEachAct();
         keep();
         restore();
+        twoFilms();
         Due.end();
     }
 
@@ -145,5 +146,29 @@ public final class HistoryTest {
         Due.due("an act", y.count(12), 1);
         y.undo();
         Due.due("undo() leaves the snapshot", y.restore(), 0);
+    }
+
+    /** Two films of the same size that differ in each number: none of the one may stay in the other. */
+    private static void twoFilms() {
+        Due.at("promises 18 and 20, two films");
+        HoleReel x = new HoleReel();
+        x.addScene(1, 5);
+        x.run();
+        x.run();
+        x.addWitness(1, 1, 3);
+        List<Integer> one = Due.state(x);
+        x.keep();
+        for (int i = 3; i >= 0; i--) {
+            Due.due("undo()", x.undo(), i);
+        }
+        x.addScene(2, 7);
+        x.dislike(2, true);
+        x.run();
+        x.addWitness(0, 0, 2);
+        List<Integer> other = Due.state(x);
+        Due.due("restore()", x.restore(), 1);
+        Due.due("the one", Due.state(x), one);
+        Due.due("undo()", x.undo(), 3);
+        Due.due("the other", Due.state(x), other);
     }
 }

@@ -41,9 +41,10 @@ public final class ToldTest {
         x.tear(0, 4, 0);
         x.tear(0, 4, 3);
         x.tear(0, 8, 2);
+        x.tear(1, 0, 1);
         x.tear(1, 3, 2);
         int[] first = {5, 9, 6, 3, 3, 1};
-        int[] second = {2, 4, 4, 1, 1, 1};
+        int[] second = {2, 4, 4, 1, 2, 1};
         for (int what = 0; what < 6; what++) {
             Due.due("scene(0, " + what + ")", x.scene(0, what), first[what]);
             Due.due("scene(1, " + what + ")", x.scene(1, what), second[what]);
