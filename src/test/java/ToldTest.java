@@ -49,9 +49,16 @@ public final class ToldTest {
             Due.due("scene(0, " + what + ")", x.scene(0, what), first[what]);
             Due.due("scene(1, " + what + ")", x.scene(1, what), second[what]);
         }
+        x.addScene(0, 40);
+        x.addScene(0, 40);
+        x.tear(2, 39, 0);
+        x.tear(3, 0, 0);
+        x.tear(3, 0, 1);
+        Due.due("a scene of 40 frames", x.scene(2, 4), 1);
+        Due.due("the one behind it", x.scene(3, 4), 2);
         badWhats(x, "scene(1)", 5, Due.BAD_VALUE, (r, what) -> r.scene(1, what));
-        badWhats(x, "scene(2)", 5, Due.UNKNOWN, (r, what) -> r.scene(2, what));
-        badWhats(x, "no scene", 1, Due.UNKNOWN, (r, scene) -> r.scene(scene, 0));
+        badWhats(x, "scene(4)", 5, Due.UNKNOWN, (r, what) -> r.scene(4, what));
+        badWhats(x, "no scene", 3, Due.UNKNOWN, (r, scene) -> r.scene(scene, 0));
     }
 
     private static void sceneInOrder() {
