@@ -90,78 +90,104 @@ final class Due {
 
     /** All that is told of a state, so without the history and the text. */
     static List<Integer> state(HoleReel x) {
-        List<Integer> told = new ArrayList<>();
-        for (int what = 0; what <= 11; what++) {
-            told.add(x.count(what));
-        }
-        for (int what = 0; what < 8; what++) {
-            told.add(x.next(what));
-        }
-        tellPieces(x, told);
-        tellScenes(x, told);
-        tellShows(x, told);
-        tellWitnesses(x, told);
-        return told;
-    }
-
-    private static void tellPieces(HoleReel x, List<Integer> told) {
-        for (int piece = 0; piece < 20; piece++) {
-            for (int what = 0; what < 5; what++) {
-                told.add(x.piece(piece, what));
-            }
-            for (int what = 0; what < 3; what++) {
-                told.add(x.canned(piece, what));
-            }
-        }
-        for (int position = 0; position <= x.count(3); position++) {
-            told.add(x.frameAt(position));
-        }
-    }
-
-    private static void tellScenes(HoleReel x, List<Integer> told) {
-        for (int scene = 0; scene < 12; scene++) {
-            for (int what = 0; what < 6; what++) {
-                told.add(x.scene(scene, what));
-            }
-            for (int frame = 0; frame <= x.scene(scene, 1); frame++) {
-                for (int what = 0; what < 4; what++) {
-                    told.add(x.frame(scene, frame, what));
-                }
-            }
-        }
-    }
-
-    private static void tellShows(HoleReel x, List<Integer> told) {
-        for (int show = 0; show < 10; show++) {
-            for (int what = 0; what < 8; what++) {
-                told.add(x.show(show, what));
-            }
-            for (int unit = 0; unit <= x.show(show, 0); unit++) {
-                told.add(x.seen(show, unit));
-            }
-        }
-    }
-
-    private static void tellWitnesses(HoleReel x, List<Integer> told) {
-        for (int witness = 0; witness < 8; witness++) {
-            for (int what = 0; what < 6; what++) {
-                told.add(x.witness(witness, what));
-            }
-            for (int scene = 0; scene < 12; scene++) {
-                told.add(x.saw(witness, scene));
-            }
-            for (int other = 0; other < 8; other++) {
-                told.add(x.differ(witness, other));
-            }
-        }
+        return answers(x, tellings(x, 11));
     }
 
     /** All that is told at all. */
     static List<Integer> all(HoleReel x) {
-        List<Integer> told = state(x);
-        told.add(x.count(12));
-        told.add(x.count(13));
+        return answers(x, allTellings(x));
+    }
+
+    static List<Integer> answers(HoleReel x, List<Call> calls) {
+        List<Integer> told = new ArrayList<>();
+        calls.forEach(call -> told.add(call.on(x)));
         return told;
+    }
+
+    /** The calls that tell all of an object, and of any other that is like it. */
+    static List<Call> allTellings(HoleReel x) {
+        return tellings(x, 13);
+    }
+
+    private static List<Call> tellings(HoleReel x, int lastCount) {
+        List<Call> calls = new ArrayList<>();
+        for (int i = 0; i <= lastCount; i++) {
+            int what = i;
+            calls.add(r -> r.count(what));
+        }
+        for (int i = 0; i < 8; i++) {
+            int what = i;
+            calls.add(r -> r.next(what));
+        }
+        addPieces(calls, x.count(3));
+        for (int scene = 0; scene < 12; scene++) {
+            addScene(calls, scene, x.scene(scene, 1));
+        }
+        for (int show = 0; show < 10; show++) {
+            addShow(calls, show, x.show(show, 0));
+        }
+        for (int witness = 0; witness < 8; witness++) {
+            addWitness(calls, witness);
+        }
+        return calls;
+    }
+
+    private static void addPieces(List<Call> calls, int positions) {
+        for (int i = 0; i < 20; i++) {
+            int piece = i;
+            for (int j = 0; j < 5; j++) {
+                int what = j;
+                calls.add(r -> r.piece(piece, what));
+            }
+            for (int j = 0; j < 3; j++) {
+                int what = j;
+                calls.add(r -> r.canned(piece, what));
+            }
+        }
+        for (int i = 0; i <= positions; i++) {
+            int position = i;
+            calls.add(r -> r.frameAt(position));
+        }
+    }
+
+    private static void addScene(List<Call> calls, int scene, int frames) {
+        for (int i = 0; i < 6; i++) {
+            int what = i;
+            calls.add(r -> r.scene(scene, what));
+        }
+        for (int i = 0; i <= frames; i++) {
+            int frame = i;
+            for (int j = 0; j < 4; j++) {
+                int what = j;
+                calls.add(r -> r.frame(scene, frame, what));
+            }
+        }
+    }
+
+    private static void addShow(List<Call> calls, int show, int units) {
+        for (int i = 0; i < 8; i++) {
+            int what = i;
+            calls.add(r -> r.show(show, what));
+        }
+        for (int i = 0; i <= units; i++) {
+            int unit = i;
+            calls.add(r -> r.seen(show, unit));
+        }
+    }
+
+    private static void addWitness(List<Call> calls, int witness) {
+        for (int i = 0; i < 6; i++) {
+            int what = i;
+            calls.add(r -> r.witness(witness, what));
+        }
+        for (int i = 0; i < 12; i++) {
+            int scene = i;
+            calls.add(r -> r.saw(witness, scene));
+        }
+        for (int i = 0; i < 8; i++) {
+            int other = i;
+            calls.add(r -> r.differ(witness, other));
+        }
     }
 
     /** A call that should answer an error or NONE, and change nothing. */
