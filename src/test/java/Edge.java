@@ -2,8 +2,10 @@ import java.util.ArrayList;
 import java.util.List;
 
 /**
- * A sentence of the document that names a boundary case, and runs of calls at that boundary. Each
- * run is played on a new object. It is written as words with blanks between:
+ * A sentence of the document that names a boundary case, and runs of calls at that boundary. The
+ * sentence begins with its promise's number or the word of its place in the document's terms; ".."
+ * stands where words are left out. Each run is played on a new object, and is written as words with
+ * blanks between:
  * <pre>
  * addScene(0,4)          a call that is to be done: its answer is not negative
  * cut(4)=BAD             a call and the answer that is due, a number or a name
@@ -55,8 +57,16 @@ final class Edge {
             object = new HoleReel();
             told = null;
             for (String word : run.trim().split(" +")) {
-                play(word);
+                playOrTell(word);
             }
+        }
+    }
+
+    private void playOrTell(String word) {
+        try {
+            play(word);
+        } catch (RuntimeException thrown) {
+            Due.due(word, thrown, "an answer");
         }
     }
 

@@ -31,6 +31,9 @@ final class FilmEdges {
                 "cut(0)=BAD join(0)=UNKNOWN takeOut(0)=UNKNOWN putIn(0,0)=UNKNOWN move(0,0)=UNKNOWN "
                     + "tear(0,0,0)=UNKNOWN patch(0,0)=UNKNOWN splice(0)=UNKNOWN run()=NOT "
                     + "addWitness(0,0,1)=UNKNOWN edit()=-100 undo()=NONE restore()=NONE"),
+            new Edge("film: An object is used for at most 512 calls",
+                Edge.each(1, 254, "dislike(0,true)=1 dislike(0,false)=0")
+                    + "addScene(0,3)=0 run()=0 undo()=3 run()=0"),
             new Edge("film: numbered from 0",
                 "addScene(3,1)=0 scene(0,0)=3 scene(-1,0)=UNKNOWN piece(0,0)=0 piece(-1,0)=UNKNOWN "
                     + "frameAt(0)=0 frame(0,0,0)=0 takeOut(0)=0 canned(0,0)=0 canned(-1,0)=UNKNOWN"));
@@ -50,7 +53,9 @@ final class FilmEdges {
                 "addScene(0,2) takeOut(0)=0 addScene(1,3)=1 reel=1:0-2 can=0:0-1",
                 "addScene(0,4) addScene(1,1) move(1,0) cut(3)=2 addScene(2,2)=2 "
                     + "reel=1:0-0,0:0-1,0:2-3,2:0-1"),
-            new Edge("2 Returns its number", TWELVE + "count(0)=12"),
+            new Edge("2 Returns its number",
+                TWELVE + "count(0)=12",
+                "addScene(0,2)=0 cut(1) addScene(0,1)=1 takeOut(0) takeOut(0) addScene(0,1)=2"),
             new Edge("2 BAD_VALUE; FULL",
                 TWELVE + "addScene(6,1)=BAD addScene(-1,1)=BAD addScene(0,0)=BAD addScene(0,41)=BAD",
                 TWENTY + "addScene(6,1)=BAD addScene(-1,1)=BAD addScene(0,0)=BAD addScene(0,41)=BAD"),

@@ -91,6 +91,20 @@ final class HistoryEdges {
                     + "2,3,0,8,0,1,0,0,3,5,1,0,0,0 reel=0:0-1,0:2-4/1,1:0-2/1",
                 "addScene(1,5) cut(2) tear(0,1,0) takeOut(0) run() patch(0,1) count(12)=4 undo()=3 undo()=2 "
                     + "undo()=1 reel=0:0-1,0:2-4 frame(0,1,*)=1,1,0,1 frame(0,2,2)=0 count(5)=0 count(2)=0"),
+            new Edge("history: A state is everything (two of them, as large as one another)",
+                "addScene(1,5) keep() undo() addScene(2,7) restore()=1 scene(0,*)=1,5,5,1,0,1 undo()=1 "
+                    + "scene(0,*)=2,7,7,1,0,1",
+                "addScene(1,5) addScene(1,1) run() keep() undo() set(0,0) dislike(1,true) set(0,1) run() "
+                    + "show(0,*)=3,1,0,5,14,10,NONE,1 restore()=2 show(0,*)=6,6,0,0,24,0,NONE,0 seen(0,0)=0 "
+                    + "seen(0,5)=100 undo()=3 show(0,*)=3,1,0,5,14,10,NONE,1 seen(0,0)=NONE seen(0,2)=100",
+                "addScene(1,5) run() run() addWitness(1,1,3) keep() undo() addWitness(0,2,5) restore()=1 "
+                    + "witness(0,*)=1,1,3,2,0,1 undo()=3 witness(0,*)=0,2,5,3,0,1",
+                "addScene(1,5) tear(0,0,1) run() keep() undo() undo() run() tear(0,1,3) restore()=1 "
+                    + "frame(0,0,1)=2 frame(0,1,1)=0 undo()=3 frame(0,0,1)=0 frame(0,1,1)=8",
+                "addScene(1,5) cut(2) keep() undo() cut(3) run() restore()=2 reel=0:0-1,0:2-4 undo()=3 "
+                    + "reel=0:0-2,0:3-4/1",
+                "addScene(1,5) cut(2) takeOut(0) keep() undo() takeOut(1) restore()=1 can=0:0-1 reel=0:2-4 "
+                    + "undo()=3 can=0:2-4 reel=0:0-1"),
             new Edge("history: A state is everything (restore)",
                 "addScene(1,5) addScene(2,3) cut(2) tear(0,1,0) run() keep()=3 addWitness(0,0,4) dislike(2,true) "
                     + "set(0,1) set(1,1) run() takeOut(0) patch(0,1) splice(1) addScene(0,9) restore()=3 "

@@ -81,7 +81,7 @@ final class ShowsEdges {
                 THREE + "run() reel=0:0-1,1:0-1/1,2:0-1/1 run() reel=0:0-1,1:0-1/2,2:0-1/2",
                 "addScene(0,1) set(1,1) " + Edge.each(0, 9, "run()=@ show(@,6)=NONE")),
             new Edge("shows: If they are then greater than the limit of splices .., the splice breaks",
-                TWO + "set(1,1) run() show(0,6)=NONE run() show(1,6)=1",
+                TWO + "set(1,1) run() show(0,6)=NONE run() show(1,6)=1 run() show(2,6)=1",
                 TWO + "run() run() run() run() run() show(4,6)=NONE run() show(5,6)=1 piece(1,4)=6",
                 TWO + "run() run() run() set(1,4) run() show(3,6)=NONE run() show(4,6)=1",
                 TWO + "set(1,1) run() run() show(1,6)=1 set(1,3) run() show(2,6)=NONE run() show(3,6)=1",
@@ -214,7 +214,8 @@ final class ShowsEdges {
                 "addWitness(0,-1,0)=UNKNOWN",
                 ONE_SHOW + "addWitness(1,-1,0)=UNKNOWN addWitness(-1,0,9)=UNKNOWN"),
             new Edge("14 UNKNOWN; .. FULL", EIGHT + "addWitness(1,0,1)=UNKNOWN addWitness(-1,0,1)=UNKNOWN"),
-            new Edge("14 BAD_VALUE; FULL", EIGHT + "addWitness(0,1,1)=BAD addWitness(0,0,7)=BAD addWitness(0,-1,1)=BAD"),
+            new Edge("14 BAD_VALUE; FULL",
+                EIGHT + "addWitness(0,1,1)=BAD addWitness(0,0,7)=BAD addWitness(0,-1,1)=BAD"),
             new Edge("14 Returns the witness's number", EIGHT + "count(6)=8 witness(7,2)=6 witness(8,2)=UNKNOWN"));
     }
 }

@@ -126,7 +126,8 @@ final class ToldEdges {
                 FILM + "cut(4) takeOut(1) run() frame(1,0,2)=0 frame(1,1,2)=1 frame(2,0,2)=1"),
             new Edge("25 whether it would be shown if it was not wound",
                 FILM + "dislike(4,true) frame(0,2,3)=1 tear(0,2,0) tear(0,2,1) frame(0,2,3)=1 tear(0,2,2) "
-                    + "frame(0,2,3)=0 tear(0,2,3)=0 frame(0,2,3)=0 frame(0,1,3)=1 takeOut(0) frame(0,2,3)=0"));
+                    + "frame(0,2,3)=0 tear(0,2,3)=0 frame(0,2,3)=0 frame(0,1,3)=1 takeOut(0) "
+                    + "frame(0,2,3)=0 frame(0,1,3)=1"));
     }
 
     private static List<Edge> show() {
@@ -180,7 +181,7 @@ final class ToldEdges {
     private static List<Edge> witnessesNumbers() {
         return List.of(
             new Edge("witnesses: from one unit of time on up to another one (this one not)",
-                WITNESSES + "witness(0,*)=0,0,3,2,1,1 witness(4,*)=0,5,6,1,0,4",
+                WITNESSES + "witness(0,*)=0,0,3,2,1,1 witness(2,*)=0,3,5,0,2,0 witness(4,*)=0,5,6,1,0,4",
                 SHOWS + "addWitness(0,2,3)=0 witness(0,3)=1 addWitness(0,1,2)=1 witness(1,3)=0 addWitness(0,0,6)=2 "
                     + "witness(2,*)=0,0,6,3,3,5",
                 LARGEST + "run() addWitness(0,0,480)=0 witness(0,*)=0,0,480,480,0,4095 addWitness(0,39,41)=1 "
