@@ -1,4 +1,3 @@
-import java.util.ArrayList;
 import java.util.List;
 
 /**
@@ -14,19 +13,12 @@ import java.util.List;
  * reel=0:0-3,1:0-1/2     the pieces, scene:first-last, with /passes of the splice if not 0
  * can=0:0-3              likewise in the can
  * </pre>
- * Behind each answer that is an error or NONE, all is told once more: nothing may have changed. No
- * object is used for more calls than the document promises; more is told of by others like it.
+ * Behind each answer that is an error or NONE, all is told once more: nothing may have changed.
  */
 final class Edge {
-    private static final int MOST_CALLS = 512;
-    private static final int MOST_STATES = 4;
-
     private final String sentence;
     private final String[] runs;
-    private final List<Due.Call> made = new ArrayList<>();
-    private HoleReel object = new HoleReel();
-    /** All that was told behind the latest call, or null if it was not asked. */
-    private List<Integer> told;
+    private Played object = new Played();
 
     Edge(String sentence, String... runs) {
         this.sentence = sentence;
@@ -53,9 +45,7 @@ final class Edge {
     void check() {
         for (String run : runs) {
             Due.at(sentence + "\n  in " + run + "\n ");
-            made.clear();
-            object = new HoleReel();
-            told = null;
+            object = new Played();
             for (String word : run.trim().split(" +")) {
                 playOrTell(word);
             }
@@ -75,9 +65,9 @@ final class Edge {
         String call = split < 0 ? word : word.substring(0, split);
         String want = split < 0 ? "" : word.substring(split + 1);
         if (call.equals("reel")) {
-            Due.due(call, Due.reel(anotherLike(made)).replace(' ', ','), want);
+            Due.due(call, object.reel().replace(' ', ','), want);
         } else if (call.equals("can")) {
-            Due.due(call, Due.can(anotherLike(made)).replace(' ', ','), want);
+            Due.due(call, object.can().replace(' ', ','), want);
         } else if (call.startsWith("text(")) {
             write(call.substring(5, call.length() - 1));
         } else if (call.contains("*")) {
@@ -98,60 +88,17 @@ final class Edge {
     }
 
     private void make(String words, String want) {
-        Due.Call call = Calls.of(words);
-        boolean isRefused = !want.isEmpty() && Calls.number(want) < 0;
-        List<Integer> before = isRefused ? toldNow() : null;
+        Call call = Call.of(words);
+        boolean isRefused = !want.isEmpty() && Call.number(want) < 0;
+        List<Integer> before = isRefused ? object.everything() : null;
         int answer = call.on(object);
-        made.add(call);
-        told = null;
-        Due.due("there is room for " + words, made.size() <= MOST_CALLS, true);
         if (want.isEmpty()) {
             Due.due(words + " (" + answer + ") is done", answer >= 0, true);
         } else {
-            Due.due(words, answer, Calls.number(want));
+            Due.due(words, answer, Call.number(want));
         }
         if (isRefused) {
-            Due.due(words + " changes nothing", toldNow().equals(before), true);
+            Due.due(words + " changes nothing", object.everything().equals(before), true);
         }
-    }
-
-    private List<Integer> toldNow() {
-        if (told == null) {
-            told = tellAll();
-        }
-        return told;
-    }
-
-    /** What can be told now, what the text does, and what the snapshot and the history hold. */
-    private List<Integer> tellAll() {
-        List<Integer> all = new ArrayList<>(tellBehind(List.of()));
-        all.addAll(tellBehind(List.of(HoleReel::edit)));
-        all.addAll(tellBehind(List.of(HoleReel::restore)));
-        List<Due.Call> undos = new ArrayList<>();
-        for (int i = 0; i < MOST_STATES; i++) {
-            undos.add(HoleReel::undo);
-            all.addAll(tellBehind(undos));
-        }
-        return all;
-    }
-
-    private List<Integer> tellBehind(List<Due.Call> more) {
-        List<Due.Call> path = new ArrayList<>(made);
-        List<Integer> all = Due.answers(anotherLike(made), more);
-        path.addAll(more);
-        List<Due.Call> tellings = Due.allTellings(anotherLike(path));
-        int room = MOST_CALLS - path.size();
-        Due.due("there is room to tell all", room > 0, true);
-        for (int from = 0; from < tellings.size() && room > 0; from += room) {
-            int to = Math.min(from + room, tellings.size());
-            all.addAll(Due.answers(anotherLike(path), tellings.subList(from, to)));
-        }
-        return all;
-    }
-
-    private static HoleReel anotherLike(List<Due.Call> calls) {
-        HoleReel another = new HoleReel();
-        calls.forEach(call -> call.on(another));
-        return another;
     }
 }

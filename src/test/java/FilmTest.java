@@ -20,7 +20,7 @@ public final class FilmTest {
 
     private static void newObject() {
         Due.at("promise 1");
-        HoleReel x = new HoleReel();
+        Played x = new Played();
         int[] counts = {0, 0, 0, 0, 0, 0, 0, 0, 3, 5, 0, 0, 0, 0};
         for (int what = 0; what < counts.length; what++) {
             Due.due("count(" + what + ")", x.count(what), counts[what]);
@@ -33,14 +33,14 @@ public final class FilmTest {
         Due.due("frameAt(0)", x.frameAt(0), Due.NONE);
         Due.due("undo()", x.undo(), Due.NONE);
         Due.due("restore()", x.restore(), Due.NONE);
-        HoleReel y = new HoleReel();
+        Played y = new Played();
         y.addScene(1, 5);
         Due.due("another object's count(0)", x.count(0), 0);
     }
 
     private static void addScene() {
         Due.at("promise 2");
-        HoleReel x = new HoleReel();
+        Played x = new Played();
         for (int bad : new int[] {-1, 6, Integer.MIN_VALUE, Integer.MAX_VALUE}) {
             Due.refused(x, "addScene(" + bad + ", 1)", Due.BAD_VALUE, r -> r.addScene(bad, 1));
         }
@@ -50,12 +50,12 @@ public final class FilmTest {
         for (int i = 0; i < 12; i++) {
             Due.due("addScene", x.addScene(i % 6, i == 0 ? 40 : i), i);
         }
-        Due.due("reel", Due.reel(x), "0:0-39 1:0-0 2:0-1 3:0-2 4:0-3 5:0-4 6:0-5 7:0-6 8:0-7 9:0-8 10:0-9 11:0-10");
+        Due.due("reel", x.reel(), "0:0-39 1:0-0 2:0-1 3:0-2 4:0-3 5:0-4 6:0-5 7:0-6 8:0-7 9:0-8 10:0-9 11:0-10");
         Due.due("scene(7, 0)", x.scene(7, 0), 1);
         Due.due("history", x.count(12), 4);
         Due.refused(x, "a 13th scene", Due.FULL, r -> r.addScene(0, 1));
         Due.refused(x, "a bad 13th scene", Due.BAD_VALUE, r -> r.addScene(6, 1));
-        HoleReel y = new HoleReel();
+        Played y = new Played();
         y.addScene(0, 20);
         for (int i = 1; i < 20; i++) {
             y.cut(i);
@@ -72,7 +72,7 @@ public final class FilmTest {
 
     private static void cut() {
         Due.at("promise 3");
-        HoleReel x = new HoleReel();
+        Played x = new Played();
         Due.refused(x, "cut(0) of nothing", Due.BAD_VALUE, r -> r.cut(0));
         x.addScene(0, 5);
         x.addScene(1, 4);
@@ -83,12 +83,12 @@ public final class FilmTest {
         Due.refused(x, "cut(5)", Due.NONE, r -> r.cut(5));
         x.run();
         Due.due("cut(8)", x.cut(8), 2);
-        Due.due("reel", Due.reel(x), "0:0-4 1:0-2/1 1:3-3");
+        Due.due("reel", x.reel(), "0:0-4 1:0-2/1 1:3-3");
         x.run();
         Due.due("cut(6)", x.cut(6), 2);
-        Due.due("a cut leaves the other splices", Due.reel(x), "0:0-4 1:0-0/2 1:1-2 1:3-3/1");
+        Due.due("a cut leaves the other splices", x.reel(), "0:0-4 1:0-0/2 1:1-2 1:3-3/1");
         Due.due("history", x.count(12), 4);
-        x = new HoleReel();
+        x = new Played();
         x.addScene(0, 40);
         for (int i = 1; i < 20; i++) {
             Due.due("cut", x.cut(2 * i), i);
@@ -100,7 +100,7 @@ public final class FilmTest {
 
     private static void join() {
         Due.at("promise 4");
-        HoleReel x = new HoleReel();
+        Played x = new Played();
         Due.refused(x, "join(0) of nothing", Due.UNKNOWN, r -> r.join(0));
         x.addScene(0, 6);
         x.addScene(0, 2);
@@ -113,28 +113,28 @@ public final class FilmTest {
         Due.refused(x, "join the last", Due.NOT_POSSIBLE, r -> r.join(3));
         Due.refused(x, "join another scene", Due.NOT_POSSIBLE, r -> r.join(2));
         Due.due("join(1)", x.join(1), 4);
-        Due.due("joined", Due.reel(x), "0:0-1 0:2-5/1 1:0-1/1");
+        Due.due("joined", x.reel(), "0:0-1 0:2-5/1 1:0-1/1");
         Due.due("join(0)", x.join(0), 6);
-        Due.due("joined", Due.reel(x), "0:0-5 1:0-1/1");
+        Due.due("joined", x.reel(), "0:0-5 1:0-1/1");
         x.undo();
         x.undo();
         x.takeOut(1);
-        Due.due("a gap", Due.reel(x), "0:0-1 0:4-5 1:0-1/1");
+        Due.due("a gap", x.reel(), "0:0-1 0:4-5 1:0-1/1");
         Due.refused(x, "join over a gap", Due.NOT_POSSIBLE, r -> r.join(0));
         x.move(0, 1);
         Due.refused(x, "join the wrong way round", Due.NOT_POSSIBLE, r -> r.join(0));
-        HoleReel y = new HoleReel();
+        Played y = new Played();
         y.addScene(0, 2);
         y.addScene(0, 4);
         y.cut(4);
         y.move(1, 2);
-        Due.due("the next frame of another scene", Due.reel(y), "0:0-1 1:2-3 1:0-1");
+        Due.due("the next frame of another scene", y.reel(), "0:0-1 1:2-3 1:0-1");
         Due.refused(y, "join the next frame of another scene", Due.NOT_POSSIBLE, r -> r.join(0));
     }
 
     private static void takeOut() {
         Due.at("promise 5");
-        HoleReel x = new HoleReel();
+        Played x = new Played();
         Due.refused(x, "takeOut(0) of nothing", Due.UNKNOWN, r -> r.takeOut(0));
         x.addScene(0, 3);
         x.addScene(1, 3);
@@ -145,16 +145,16 @@ public final class FilmTest {
             Due.refused(x, "takeOut(" + bad + ")", Due.UNKNOWN, r -> r.takeOut(bad));
         }
         Due.due("takeOut(1)", x.takeOut(1), 3);
-        Due.due("reel", Due.reel(x), "0:0-2 2:0-2 3:0-2/1");
+        Due.due("reel", x.reel(), "0:0-2 2:0-2 3:0-2/1");
         Due.due("takeOut(0)", x.takeOut(0), 2);
-        Due.due("reel", Due.reel(x), "2:0-2 3:0-2/1");
-        Due.due("can", Due.can(x), "1:0-2 0:0-2");
+        Due.due("reel", x.reel(), "2:0-2 3:0-2/1");
+        Due.due("can", x.can(), "1:0-2 0:0-2");
         Due.due("takeOut(0)", x.takeOut(0), 1);
-        Due.due("the first splice", Due.reel(x), "3:0-2");
+        Due.due("the first splice", x.reel(), "3:0-2");
         Due.due("takeOut(0)", x.takeOut(0), 0);
         Due.due("history", x.count(12), 4);
-        Due.due("can", Due.can(x), "1:0-2 0:0-2 2:0-2 3:0-2");
-        HoleReel y = new HoleReel();
+        Due.due("can", x.can(), "1:0-2 0:0-2 2:0-2 3:0-2");
+        Played y = new Played();
         y.addScene(0, 22);
         for (int i = 0; i < 20; i++) {
             y.cut(1);
@@ -166,7 +166,7 @@ public final class FilmTest {
 
     private static void putIn() {
         Due.at("promise 6");
-        HoleReel x = new HoleReel();
+        Played x = new Played();
         x.addScene(0, 3);
         x.addScene(1, 3);
         x.addScene(2, 3);
@@ -180,18 +180,18 @@ public final class FilmTest {
             Due.refused(x, "putIn(0, " + bad + ")", Due.BAD_VALUE, r -> r.putIn(0, bad));
         }
         Due.due("putIn(0, 1)", x.putIn(0, 1), 1);
-        Due.due("reel", Due.reel(x), "2:0-2 0:0-2");
-        Due.due("can", Due.can(x), "1:0-2");
+        Due.due("reel", x.reel(), "2:0-2 0:0-2");
+        Due.due("can", x.can(), "1:0-2");
         x.run();
         Due.due("putIn(0, 1)", x.putIn(0, 1), 0);
-        Due.due("two new splices", Due.reel(x), "2:0-2 1:0-2 0:0-2");
+        Due.due("two new splices", x.reel(), "2:0-2 1:0-2 0:0-2");
         x.run();
         x.takeOut(2);
         Due.due("putIn(0, 0)", x.putIn(0, 0), 0);
-        Due.due("the first place", Due.reel(x), "0:0-2 2:0-2 1:0-2/1");
+        Due.due("the first place", x.reel(), "0:0-2 2:0-2 1:0-2/1");
         x.takeOut(2);
         Due.due("putIn(0, 2)", x.putIn(0, 2), 0);
-        Due.due("back with a new splice", Due.reel(x), "0:0-2 2:0-2 1:0-2");
+        Due.due("back with a new splice", x.reel(), "0:0-2 2:0-2 1:0-2");
         x.takeOut(0);
         for (int i = 0; i < 18; i++) {
             x.addScene(0, i < 9 ? 9 : 40);
@@ -211,7 +211,7 @@ public final class FilmTest {
 
     private static void move() {
         Due.at("promise 7");
-        HoleReel x = new HoleReel();
+        Played x = new Played();
         Due.refused(x, "move(0, 0) of nothing", Due.UNKNOWN, r -> r.move(0, 0));
         for (int i = 0; i < 5; i++) {
             x.addScene(0, i + 1);
@@ -223,39 +223,39 @@ public final class FilmTest {
         }
         Due.refused(x, "move(2, 2)", Due.NONE, r -> r.move(2, 2));
         Due.due("move(0, 4)", x.move(0, 4), 14);
-        Due.due("reel", Due.reel(x), "1:0-1 2:0-2 3:0-3 4:0-4 0:0-0");
+        Due.due("reel", x.reel(), "1:0-1 2:0-2 3:0-3 4:0-4 0:0-0");
         Due.due("move(4, 1)", x.move(4, 1), 2);
-        Due.due("reel", Due.reel(x), "1:0-1 0:0-0 2:0-2 3:0-3 4:0-4");
+        Due.due("reel", x.reel(), "1:0-1 0:0-0 2:0-2 3:0-3 4:0-4");
         Due.due("move(1, 0)", x.move(1, 0), 0);
         Due.due("move(3, 2)", x.move(3, 2), 3);
-        Due.due("reel", Due.reel(x), "0:0-0 1:0-1 3:0-3 2:0-2 4:0-4");
+        Due.due("reel", x.reel(), "0:0-0 1:0-1 3:0-3 2:0-2 4:0-4");
         Due.due("history", x.count(12), 4);
     }
 
     private static void movedSplices() {
         Due.at("promise 7, splices");
-        HoleReel x = new HoleReel();
+        Played x = new Played();
         for (int i = 0; i < 6; i++) {
             x.addScene(0, 1);
         }
         x.run();
-        Due.due("reel", Due.reel(x), "0:0-0 1:0-0/1 2:0-0/1 3:0-0/1 4:0-0/1 5:0-0/1");
+        Due.due("reel", x.reel(), "0:0-0 1:0-0/1 2:0-0/1 3:0-0/1 4:0-0/1 5:0-0/1");
         x.move(1, 3);
-        Due.due("on", Due.reel(x), "0:0-0 2:0-0 3:0-0/1 1:0-0 4:0-0 5:0-0/1");
+        Due.due("on", x.reel(), "0:0-0 2:0-0 3:0-0/1 1:0-0 4:0-0 5:0-0/1");
         x.undo();
         x.move(4, 2);
-        Due.due("back", Due.reel(x), "0:0-0 1:0-0/1 4:0-0 2:0-0 3:0-0/1 5:0-0");
+        Due.due("back", x.reel(), "0:0-0 1:0-0/1 4:0-0 2:0-0 3:0-0/1 5:0-0");
         x.undo();
         x.move(1, 0);
-        Due.due("to the first place", Due.reel(x), "1:0-0 0:0-0 2:0-0 3:0-0/1 4:0-0/1 5:0-0/1");
+        Due.due("to the first place", x.reel(), "1:0-0 0:0-0 2:0-0 3:0-0/1 4:0-0/1 5:0-0/1");
         x.undo();
         x.move(0, 5);
-        Due.due("from the first place", Due.reel(x), "1:0-0 2:0-0/1 3:0-0/1 4:0-0/1 5:0-0/1 0:0-0");
+        Due.due("from the first place", x.reel(), "1:0-0 2:0-0/1 3:0-0/1 4:0-0/1 5:0-0/1 0:0-0");
     }
 
     private static void tear() {
         Due.at("promise 8");
-        HoleReel x = new HoleReel();
+        Played x = new Played();
         Due.refused(x, "tear(0, 0, 0) of nothing", Due.UNKNOWN, r -> r.tear(0, 0, 0));
         x.addScene(0, 3);
         x.addScene(0, 1);
@@ -285,7 +285,7 @@ public final class FilmTest {
 
     private static void patch() {
         Due.at("promise 9");
-        HoleReel x = new HoleReel();
+        Played x = new Played();
         Due.refused(x, "patch(0, 0) of nothing", Due.UNKNOWN, r -> r.patch(0, 0));
         x.addScene(0, 3);
         for (int bad : new int[] {-1, 1, Integer.MIN_VALUE, Integer.MAX_VALUE}) {
@@ -314,7 +314,7 @@ public final class FilmTest {
 
     private static void splice() {
         Due.at("promise 10");
-        HoleReel x = new HoleReel();
+        Played x = new Played();
         Due.refused(x, "splice(0) of nothing", Due.UNKNOWN, r -> r.splice(0));
         x.addScene(0, 3);
         x.addScene(0, 3);
@@ -327,9 +327,9 @@ public final class FilmTest {
         }
         Due.refused(x, "splice(0)", Due.NONE, r -> r.splice(0));
         Due.due("splice(1)", x.splice(1), 2);
-        Due.due("reel", Due.reel(x), "0:0-2 1:0-2 2:0-2/2");
+        Due.due("reel", x.reel(), "0:0-2 1:0-2 2:0-2/2");
         Due.due("history", x.count(12), 4);
         x.undo();
-        Due.due("undone", Due.reel(x), "0:0-2 1:0-2/2 2:0-2/2");
+        Due.due("undone", x.reel(), "0:0-2 1:0-2/2 2:0-2/2");
     }
 }

@@ -1,12 +1,16 @@
+import java.lang.reflect.Array;
 import java.lang.reflect.Constructor;
 import java.lang.reflect.Field;
 import java.lang.reflect.Method;
 import java.lang.reflect.Modifier;
 import java.nio.file.Files;
 import java.nio.file.Path;
+import java.util.ArrayList;
 import java.util.Arrays;
 import java.util.HashSet;
+import java.util.IdentityHashMap;
 import java.util.List;
+import java.util.Map;
 import java.util.Set;
 import java.util.TreeSet;
 import java.util.regex.Matcher;
@@ -26,7 +30,12 @@ public final class LanguageTest {
         "\\bpackage\\b", "->", "::", "\\bequals\\b", "\\bhashCode\\b", "\\btoString\\b",
         "\\bvar\\b", "@", "\\bString\\b", "\\bwhile\\b", "Exact\\b", "\\bThread\\b",
         "\\bRandom\\b", "System\\.(?!arraycopy\\b)", "Math\\.(?!min\\b|max\\b)"};
+    /** The first line of a method or a constructor, not of a statement. */
+    private static final Pattern HEAD = Pattern.compile(
+            "( {4,8})(?!(?:if|for|while|switch|return) )((\\w|\\[\\])+ )*\\w+\\(.*\\{");
     private static final int MOST_LINES = 60;
+    private static final int MOST_ELEMENTS = 37500;
+    private static final int MOST_OBJECTS = 350;
 
     private LanguageTest() {
     }
@@ -36,7 +45,9 @@ public final class LanguageTest {
         constants();
         nested();
         words(Files.readString(Path.of("src/main/java/HoleReel.java")));
-        lengths(Files.readAllLines(Path.of("src/main/java/HoleReel.java")));
+        List<Body> bodies = bodies(Files.readAllLines(Path.of("src/main/java/HoleReel.java")));
+        lengths(bodies);
+        room(bodies);
         Due.end();
     }
 
@@ -103,17 +114,79 @@ public final class LanguageTest {
         Due.due("plain characters alone", source.chars().allMatch(c -> c == '\n' || c >= 32 && c < 127), true);
     }
 
-    private static void lengths(List<String> lines) {
-        Due.at("rule 11");
-        int began = 0;
-        for (int i = 0; i < lines.size(); i++) {
-            boolean isClass = lines.get(began).contains(" class ");
-            if (lines.get(i).matches(" {4}(?: {4})?[A-Za-z].* \\{")) {
-                began = i;
-            } else if (lines.get(i).matches(" {4}(?: {4})?\\}") && !isClass) {
-                Due.due("the method at line " + (began + 1) + " is short",
-                        i - began < MOST_LINES, true);
+    /** A method or a constructor, from its first line to its last one. */
+    private record Body(List<String> lines, int from, int to) {
+        boolean isConstructor() {
+            return lines.get(from).matches(" *(\\w+ )?[A-Z]\\w*\\(.*");
+        }
+
+        boolean makesAnObject() {
+            return lines.subList(from, to).stream().anyMatch(line -> line.matches(".*\\bnew\\b.*"));
+        }
+    }
+
+    private static List<Body> bodies(List<String> lines) {
+        List<Body> bodies = new ArrayList<>();
+        for (int from = 0; from < lines.size(); from++) {
+            Matcher head = HEAD.matcher(lines.get(from));
+            if (head.matches()) {
+                int to = from;
+                while (!lines.get(to).equals(head.group(1) + "}")) {
+                    to++;
+                }
+                bodies.add(new Body(lines, from, to));
+                from = to;
             }
         }
+        return bodies;
+    }
+
+    private static void lengths(List<Body> bodies) {
+        Due.at("rule 11");
+        int methods = 0;
+        for (Class<?> c : HoleReel.class.getNestMembers()) {
+            methods += c.getDeclaredMethods().length;
+        }
+        int constructors = (int) bodies.stream().filter(Body::isConstructor).count();
+        Due.due("the methods that are found", bodies.size() - constructors, methods);
+        for (Body body : bodies) {
+            Due.due("the method at line " + (body.from + 1) + " is short", body.to - body.from < MOST_LINES, true);
+        }
+    }
+
+    /** All runs of a test share one room, so that an object is small and its calls make no other. */
+    private static void room(List<Body> bodies) throws IllegalAccessException {
+        Due.at("rule 12");
+        Map<Object, Boolean> found = new IdentityHashMap<>();
+        int elements = elementsOf(new HoleReel(), found);
+        Due.due(elements + " elements are few", elements <= MOST_ELEMENTS, true);
+        Due.due(found.size() + " objects are few", found.size() <= MOST_OBJECTS, true);
+        for (Body body : bodies) {
+            boolean makes = !body.isConstructor() && body.makesAnObject();
+            Due.due("a method makes an object at line " + (body.from + 1), makes, false);
+        }
+    }
+
+    /** The fields and elements of an object and of all that it holds, each object once. */
+    private static int elementsOf(Object object, Map<Object, Boolean> found) throws IllegalAccessException {
+        if (object == null || found.put(object, true) != null) {
+            return 0;
+        }
+        int elements = 0;
+        if (object.getClass().isArray()) {
+            elements += Array.getLength(object);
+            for (int i = 0; object instanceof Object[] row && i < row.length; i++) {
+                elements += elementsOf(row[i], found);
+            }
+            return elements;
+        }
+        for (Field field : object.getClass().getDeclaredFields()) {
+            if (!Modifier.isStatic(field.getModifiers())) {
+                field.setAccessible(true);
+                elements++;
+                elements += field.getType().isPrimitive() ? 0 : elementsOf(field.get(object), found);
+            }
+        }
+        return elements;
     }
 }

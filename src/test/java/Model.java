@@ -12,7 +12,7 @@ import java.util.regex.Pattern;
  * (100 * scene + frame), a state is copied whole for each act, and a splice is found new by a look
  * at which frame stood behind which one before.
  */
-final class Model {
+final class Model implements Face {
     private static final int UNKNOWN = -1;
     private static final int BAD_VALUE = -2;
     private static final int FULL = -3;
@@ -129,7 +129,8 @@ final class Model {
 
     // ---- film
 
-    int addScene(int kind, int frames) {
+    @Override
+    public int addScene(int kind, int frames) {
         return act(s -> respliced(s, t -> {
             if (kind < 0 || kind > 5 || frames < 1 || frames > 40) {
                 return BAD_VALUE;
@@ -148,23 +149,28 @@ final class Model {
         }));
     }
 
-    int cut(int position) {
+    @Override
+    public int cut(int position) {
         return act(s -> respliced(s, t -> cutIn(t, position)));
     }
 
-    int join(int piece) {
+    @Override
+    public int join(int piece) {
         return act(s -> respliced(s, t -> joinIn(t, piece)));
     }
 
-    int takeOut(int piece) {
+    @Override
+    public int takeOut(int piece) {
         return act(s -> respliced(s, t -> takeOutIn(t, piece)));
     }
 
-    int putIn(int piece, int at) {
+    @Override
+    public int putIn(int piece, int at) {
         return act(s -> respliced(s, t -> putInIn(t, piece, at)));
     }
 
-    int move(int piece, int to) {
+    @Override
+    public int move(int piece, int to) {
         return act(s -> respliced(s, t -> moveIn(t, piece, to)));
     }
 
@@ -254,14 +260,16 @@ final class Model {
                 || !now.frames.containsKey(100 * scene + frame);
     }
 
-    int tear(int scene, int frame, int hole) {
+    @Override
+    public int tear(int scene, int frame, int hole) {
         return act(s -> isNoFrame(scene, frame) ? UNKNOWN
                 : hole < 0 || hole > 3 ? BAD_VALUE
                 : s.frames.get(100 * scene + frame).torn.add(hole)
                 ? s.frames.get(100 * scene + frame).good() : NONE);
     }
 
-    int patch(int scene, int frame) {
+    @Override
+    public int patch(int scene, int frame) {
         return act(s -> {
             if (isNoFrame(scene, frame)) {
                 return UNKNOWN;
@@ -273,7 +281,8 @@ final class Model {
         });
     }
 
-    int splice(int piece) {
+    @Override
+    public int splice(int piece) {
         return act(s -> {
             if (isNoIndex(piece, s.reel)) {
                 return UNKNOWN;
@@ -285,12 +294,14 @@ final class Model {
 
     // ---- shows
 
-    int dislike(int kind, boolean is) {
+    @Override
+    public int dislike(int kind, boolean is) {
         return act(s -> kind < 0 || kind > 5 ? BAD_VALUE
                 : (is ? s.disliked.add(kind) : s.disliked.remove(kind)) ? s.disliked.size() : NONE);
     }
 
-    int set(int what, int value) {
+    @Override
+    public int set(int what, int value) {
         return act(s -> {
             if (what == 0 && value >= 0 && value <= 20) {
                 int had = s.energy;
@@ -306,7 +317,8 @@ final class Model {
         });
     }
 
-    int run() {
+    @Override
+    public int run() {
         return act(s -> {
             if (s.reel.isEmpty()) {
                 return NOT_POSSIBLE;
@@ -367,7 +379,8 @@ final class Model {
         }
     }
 
-    int addWitness(int show, int from, int to) {
+    @Override
+    public int addWitness(int show, int from, int to) {
         return act(s -> {
             if (isNoIndex(show, s.shows)) {
                 return UNKNOWN;
@@ -385,7 +398,8 @@ final class Model {
 
     // ---- texts
 
-    int type(char character) {
+    @Override
+    public int type(char character) {
         if (text.length() == 60) {
             return FULL;
         }
@@ -393,13 +407,15 @@ final class Model {
         return text.length();
     }
 
-    int clearText() {
+    @Override
+    public int clearText() {
         int length = text.length();
         text = "";
         return length;
     }
 
-    int edit() {
+    @Override
+    public int edit() {
         for (int i = 1; i <= text.length(); i++) {
             Matcher matcher = EDITS.matcher(text.substring(0, i));
             if (!matcher.matches() && !matcher.hitEnd()) {
@@ -436,7 +452,8 @@ final class Model {
 
     // ---- history
 
-    int undo() {
+    @Override
+    public int undo() {
         if (history.isEmpty()) {
             return NONE;
         }
@@ -444,12 +461,14 @@ final class Model {
         return history.size();
     }
 
-    int keep() {
+    @Override
+    public int keep() {
         kept = now.copy();
         return now.reel.size();
     }
 
-    int restore() {
+    @Override
+    public int restore() {
         if (kept == null) {
             return NONE;
         }
@@ -460,7 +479,8 @@ final class Model {
 
     // ---- what is told
 
-    int scene(int scene, int what) {
+    @Override
+    public int scene(int scene, int what) {
         if (isNoIndex(scene, now.kinds)) {
             return UNKNOWN;
         }
@@ -483,7 +503,8 @@ final class Model {
         };
     }
 
-    int piece(int piece, int what) {
+    @Override
+    public int piece(int piece, int what) {
         if (isNoIndex(piece, now.reel)) {
             return UNKNOWN;
         }
@@ -496,7 +517,8 @@ final class Model {
         };
     }
 
-    int canned(int piece, int what) {
+    @Override
+    public int canned(int piece, int what) {
         return isNoIndex(piece, now.can) ? UNKNOWN
                 : what < 0 || what > 2 ? BAD_VALUE : tellPiece(now.can.get(piece), what);
     }
@@ -506,12 +528,14 @@ final class Model {
                 : what == 1 ? piece.get(0) % 100 : piece.get(piece.size() - 1) % 100;
     }
 
-    int frameAt(int position) {
+    @Override
+    public int frameAt(int position) {
         List<Integer> row = now.row();
         return position < 0 ? BAD_VALUE : position >= row.size() ? NONE : row.get(position);
     }
 
-    int frame(int scene, int frame, int what) {
+    @Override
+    public int frame(int scene, int frame, int what) {
         if (isNoFrame(scene, frame)) {
             return UNKNOWN;
         }
@@ -532,12 +556,14 @@ final class Model {
         return numbers.stream().mapToInt(number -> 1 << number).sum();
     }
 
-    int show(int show, int what) {
+    @Override
+    public int show(int show, int what) {
         return isNoIndex(show, now.shows) ? UNKNOWN
                 : what < 0 || what > 7 ? BAD_VALUE : now.shows.get(show).numbers[what];
     }
 
-    int seen(int show, int unit) {
+    @Override
+    public int seen(int show, int unit) {
         return isNoIndex(show, now.shows) ? UNKNOWN
                 : isNoIndex(unit, now.shows.get(show).units) ? BAD_VALUE
                 : now.shows.get(show).units.get(unit);
@@ -555,7 +581,8 @@ final class Model {
         return scenes;
     }
 
-    int witness(int witness, int what) {
+    @Override
+    public int witness(int witness, int what) {
         if (isNoIndex(witness, now.witnesses)) {
             return UNKNOWN;
         }
@@ -569,14 +596,16 @@ final class Model {
         };
     }
 
-    int saw(int witness, int scene) {
+    @Override
+    public int saw(int witness, int scene) {
         if (isNoIndex(witness, now.witnesses) || isNoIndex(scene, now.kinds)) {
             return UNKNOWN;
         }
         return (int) framesSeenBy(witness).stream().filter(code -> code / 100 == scene).count();
     }
 
-    int differ(int witness, int other) {
+    @Override
+    public int differ(int witness, int other) {
         if (isNoIndex(witness, now.witnesses) || isNoIndex(other, now.witnesses)) {
             return UNKNOWN;
         }
@@ -590,12 +619,14 @@ final class Model {
         return one.size() + two.size() - 2 * both.size();
     }
 
-    int next(int what) {
+    @Override
+    public int next(int what) {
         return what < 0 || what > 7 ? BAD_VALUE
                 : now.reel.isEmpty() ? NOT_POSSIBLE : project(now.copy()).numbers[what];
     }
 
-    int count(int what) {
+    @Override
+    public int count(int what) {
         return switch (what) {
             case 0 -> now.kinds.size();
             case 1 -> now.reel.size();

@@ -1,7 +1,11 @@
+import java.util.ArrayList;
+import java.util.List;
+
 /** Long runs of mixed calls, of which each answer is compared with that of Model. */
 public final class ModelTest {
-    private static final int RUNS = 210;
-    private static final int CALLS = 512;
+    private static final int RUNS = 1400;
+    /** So many calls at the most are made at once: clearText, 60 of type and the edit. */
+    private static final int MOST_AT_ONCE = 62;
     /** How often each act is called, by the theme of a run; the rest of the calls are tellings. */
     private static final int[][] THEMES = {
         // addScene cut join takeOut putIn move tear patch splice dislike set run witness text history
@@ -15,10 +19,9 @@ public final class ModelTest {
     private static final int FAULTS = 6;
     private static final String SIGNS = "cjoim0123456789,;x ";
 
-    private HoleReel reel = new HoleReel();
+    private Played reel = new Played();
     private Model model = new Model();
     private long seed;
-    private int run;
     private final int[] answers = new int[FAULTS + 1];
 
     private ModelTest() {
@@ -34,22 +37,30 @@ public final class ModelTest {
     }
 
     private void oneRun(int number) {
-        run = number;
         seed = 1000003L * number + 17;
-        reel = new HoleReel();
+        reel = new Played();
         model = new Model();
-        for (int call = 0; call < CALLS && !Due.isWrong(); call++) {
-            Due.at("run " + run + ", call " + call);
+        while (reel.callsLeft() > MOST_AT_ONCE && !Due.isWrong()) {
+            Due.at("run " + number + ", with " + reel.callsLeft() + " calls left");
             if (roll(3) > 0) {
-                act(pick(THEMES[run % THEMES.length]));
+                act(pick(THEMES[number % THEMES.length]));
             } else {
                 tell(roll(12));
             }
         }
+        compareMany(reel);
     }
 
-    private void same(String call, int got, int want) {
-        Due.due(call, got, want);
+    private void same(String name, int... n) {
+        same(new Call(name, n), reel);
+    }
+
+    private void same(Call call, Face one) {
+        int got = call.on(one);
+        int want = call.on(model);
+        if (got != want) {
+            Due.due(call.toString(), got, want);
+        }
         answers[want >= 0 ? 0 : want <= -100 ? FAULTS : -want]++;
     }
 
@@ -100,103 +111,52 @@ public final class ModelTest {
         return near(model.count(0));
     }
 
+    private int anyPiece() {
+        return near(model.count(1));
+    }
+
     private int anyFrame(int scene) {
         int frames = model.scene(scene, 1);
         return near(frames < 1 ? 40 : roll(3) == 0 ? Math.min(2, frames) : frames);
     }
 
     private void act(int which) {
-        switch (which) {
-            case 0 -> {
-                int kind = near(roll(4) == 0 ? 6 : 2);
-                int frames = near(roll(3) == 0 ? 40 : 6) + 1;
-                same("addScene(" + kind + ", " + frames + ")", reel.addScene(kind, frames),
-                        model.addScene(kind, frames));
-            }
-            case 1 -> {
-                int position = near(model.count(3));
-                same("cut(" + position + ")", reel.cut(position), model.cut(position));
-            }
-            case 2 -> {
-                int piece = near(model.count(1));
-                same("join(" + piece + ")", reel.join(piece), model.join(piece));
-            }
-            case 3 -> {
-                int piece = near(model.count(1));
-                same("takeOut(" + piece + ")", reel.takeOut(piece), model.takeOut(piece));
-            }
-            case 4 -> {
-                int piece = near(model.count(2));
-                int at = near(model.count(1) + 1);
-                same("putIn(" + piece + ", " + at + ")", reel.putIn(piece, at), model.putIn(piece, at));
-            }
-            case 5 -> {
-                int piece = near(model.count(1));
-                int to = near(model.count(1));
-                same("move(" + piece + ", " + to + ")", reel.move(piece, to), model.move(piece, to));
-            }
-            default -> actOnFrames(which);
-        }
-    }
-
-    private void actOnFrames(int which) {
         int scene = anyScene();
-        int frame = anyFrame(scene);
-        int piece = near(model.count(1));
         switch (which) {
-            case 6 -> {
-                int hole = near(4);
-                same("tear(" + scene + ", " + frame + ", " + hole + ")", reel.tear(scene, frame, hole),
-                        model.tear(scene, frame, hole));
-            }
-            case 7 -> same("patch(" + scene + ", " + frame + ")", reel.patch(scene, frame),
-                    model.patch(scene, frame));
-            case 8 -> same("splice(" + piece + ")", reel.splice(piece), model.splice(piece));
-            default -> actInShows(which);
-        }
-    }
-
-    private void actInShows(int which) {
-        switch (which) {
-            case 9 -> {
-                int kind = near(roll(3) == 0 ? 6 : 2);
-                boolean is = roll(4) > 0;
-                same("dislike(" + kind + ", " + is + ")", reel.dislike(kind, is), model.dislike(kind, is));
-            }
-            case 10 -> {
-                int what = near(2);
-                int value = near(roll(2) == 0 ? 21 : 4);
-                same("set(" + what + ", " + value + ")", reel.set(what, value), model.set(what, value));
-            }
-            case 11 -> same("run()", reel.run(), model.run());
-            case 12 -> {
-                int show = near(model.count(5));
-                int units = model.show(show, 0);
-                int from = near(units);
-                int to = roll(3) == 0 ? near(units + 1) : from + 1 + near(Math.max(1, units - from));
-                same("addWitness(" + show + ", " + from + ", " + to + ")",
-                        reel.addWitness(show, from, to), model.addWitness(show, from, to));
-            }
+            case 0 -> same("addScene", near(roll(4) == 0 ? 6 : 2), near(roll(3) == 0 ? 40 : 6) + 1);
+            case 1 -> same("cut", near(model.count(3)));
+            case 2 -> same("join", anyPiece());
+            case 3 -> same("takeOut", anyPiece());
+            case 4 -> same("putIn", near(model.count(2)), near(model.count(1) + 1));
+            case 5 -> same("move", anyPiece(), anyPiece());
+            case 6 -> same("tear", scene, anyFrame(scene), near(4));
+            case 7 -> same("patch", scene, anyFrame(scene));
+            case 8 -> same("splice", anyPiece());
+            case 9 -> same("dislike", near(roll(3) == 0 ? 6 : 2), roll(4) > 0 ? 1 : 0);
+            case 10 -> same("set", near(2), near(roll(2) == 0 ? 21 : 4));
+            case 11 -> same("run");
+            case 12 -> addWitness(near(model.count(5)));
             case 13 -> editText();
             default -> actInHistory();
         }
     }
 
+    private void addWitness(int show) {
+        int units = model.show(show, 0);
+        int from = near(units);
+        int to = roll(3) == 0 ? near(units + 1) : from + 1 + near(Math.max(1, units - from));
+        same("addWitness", show, from, to);
+    }
+
     private void actInHistory() {
         int dice = roll(10);
-        if (dice < 5) {
-            same("undo()", reel.undo(), model.undo());
-        } else if (dice < 7) {
-            same("keep()", reel.keep(), model.keep());
-        } else {
-            same("restore()", reel.restore(), model.restore());
-        }
-        compareAll();
+        same(dice < 5 ? "undo" : dice < 7 ? "keep" : "restore");
+        compareMany(reel.another());
     }
 
     private void editText() {
         if (roll(3) > 0) {
-            same("clearText()", reel.clearText(), model.clearText());
+            same("clearText");
         }
         int edits = roll(8) == 0 ? 12 + roll(10) : 1 + roll(4);
         StringBuilder text = new StringBuilder(model.count(13) == 0 ? "" : ";");
@@ -209,10 +169,10 @@ public final class ModelTest {
         if (roll(8) == 0) {
             text.append(SIGNS.charAt(roll(SIGNS.length())));
         }
-        for (char sign : text.toString().toCharArray()) {
-            same("type(" + sign + ")", reel.type(sign), model.type(sign));
+        for (int i = 0; i < text.length() && i < MOST_AT_ONCE - 2; i++) {
+            same("type", text.charAt(i));
         }
-        same("edit() of " + text, reel.edit(), model.edit());
+        same("edit");
     }
 
     private String anEdit() {
@@ -226,101 +186,32 @@ public final class ModelTest {
 
     private void tell(int which) {
         int scene = anyScene();
-        int frame = anyFrame(scene);
-        int what = near(8);
         int show = near(model.count(5));
         int witness = near(model.count(6));
-        int other = near(model.count(6));
-        int piece = near(model.count(1));
         switch (which) {
-            case 0 -> same("scene(" + scene + ", " + what + ")", reel.scene(scene, what),
-                    model.scene(scene, what));
-            case 1 -> same("piece(" + piece + ", " + what + ")", reel.piece(piece, what),
-                    model.piece(piece, what));
-            case 2 -> same("canned(" + piece + ", " + what + ")", reel.canned(piece, what),
-                    model.canned(piece, what));
-            case 3 -> same("frameAt(" + frame + ")", reel.frameAt(frame), model.frameAt(frame));
-            case 4 -> same("frame(" + scene + ", " + frame + ", " + what + ")",
-                    reel.frame(scene, frame, what), model.frame(scene, frame, what));
-            case 5 -> same("show(" + show + ", " + what + ")", reel.show(show, what),
-                    model.show(show, what));
-            case 6 -> same("seen(" + show + ", " + frame + ")", reel.seen(show, frame),
-                    model.seen(show, frame));
-            case 7 -> same("witness(" + witness + ", " + what + ")", reel.witness(witness, what),
-                    model.witness(witness, what));
-            case 8 -> same("saw(" + witness + ", " + scene + ")", reel.saw(witness, scene),
-                    model.saw(witness, scene));
-            case 9 -> same("differ(" + witness + ", " + other + ")", reel.differ(witness, other),
-                    model.differ(witness, other));
-            case 10 -> same("next(" + what + ")", reel.next(what), model.next(what));
-            default -> compareAll();
+            case 0 -> same("scene", scene, near(6));
+            case 1 -> same("piece", anyPiece(), near(5));
+            case 2 -> same("canned", near(model.count(2)), near(3));
+            case 3 -> same("frameAt", near(model.count(3)));
+            case 4 -> same("frame", scene, anyFrame(scene), near(4));
+            case 5 -> same("show", show, near(8));
+            case 6 -> same("seen", show, near(Math.max(1, model.show(show, 0))));
+            case 7 -> same("witness", witness, near(6));
+            case 8 -> same("saw", witness, scene);
+            case 9 -> same("differ", witness, near(model.count(6)));
+            case 10 -> same("next", near(8));
+            default -> compareMany(reel.another());
         }
     }
 
-    /** All that is told, at and a bit over the edges of what there is. */
-    private void compareAll() {
-        for (int what = -1; what <= 14; what++) {
-            same("count(" + what + ")", reel.count(what), model.count(what));
-        }
-        for (int what = 0; what < 8; what++) {
-            same("next(" + what + ")", reel.next(what), model.next(what));
-        }
-        for (int piece = -1; piece <= model.count(1); piece++) {
-            for (int what = -1; what <= 5; what++) {
-                same("piece(" + piece + ", " + what + ")", reel.piece(piece, what),
-                        model.piece(piece, what));
-            }
-        }
-        for (int piece = -1; piece <= model.count(2); piece++) {
-            for (int what = -1; what <= 3; what++) {
-                same("canned(" + piece + ", " + what + ")", reel.canned(piece, what),
-                        model.canned(piece, what));
-            }
-        }
-        for (int position = -1; position <= model.count(3); position++) {
-            same("frameAt(" + position + ")", reel.frameAt(position), model.frameAt(position));
-        }
-        compareScenes();
-        compareShows();
-    }
-
-    private void compareScenes() {
-        for (int scene = -1; scene <= model.count(0); scene++) {
-            for (int what = -1; what <= 6; what++) {
-                same("scene(" + scene + ", " + what + ")", reel.scene(scene, what),
-                        model.scene(scene, what));
-            }
-            for (int frame = -1; frame <= Math.max(0, model.scene(scene, 1)); frame++) {
-                for (int what = -1; what <= 4; what++) {
-                    same("frame(" + scene + ", " + frame + ", " + what + ")",
-                            reel.frame(scene, frame, what), model.frame(scene, frame, what));
-                }
-            }
-        }
-    }
-
-    private void compareShows() {
-        for (int show = -1; show <= model.count(5); show++) {
-            for (int what = -1; what <= 8; what++) {
-                same("show(" + show + ", " + what + ")", reel.show(show, what), model.show(show, what));
-            }
-            for (int unit = -1; unit <= Math.max(0, model.show(show, 0)); unit++) {
-                same("seen(" + show + ", " + unit + ")", reel.seen(show, unit), model.seen(show, unit));
-            }
-        }
-        for (int witness = -1; witness <= model.count(6); witness++) {
-            for (int what = -1; what <= 6; what++) {
-                same("witness(" + witness + ", " + what + ")", reel.witness(witness, what),
-                        model.witness(witness, what));
-            }
-            for (int scene = -1; scene <= model.count(0); scene++) {
-                same("saw(" + witness + ", " + scene + ")", reel.saw(witness, scene),
-                        model.saw(witness, scene));
-            }
-            for (int other = -1; other <= model.count(6); other++) {
-                same("differ(" + witness + ", " + other + ")", reel.differ(witness, other),
-                        model.differ(witness, other));
-            }
+    /** As many of all tellings, and of those a bit over the edges, as an object has calls left for. */
+    private void compareMany(Played one) {
+        List<Integer> sizes = new ArrayList<>();
+        Tellings.sizes().forEach(call -> sizes.add(call.on(model)));
+        List<Call> calls = Tellings.of(sizes, Tellings.LAST_COUNT, 1);
+        int from = roll(calls.size());
+        for (int i = 0; one.callsLeft() > 0 && !Due.isWrong(); i++) {
+            same(calls.get((from + i) % calls.size()), one);
         }
     }
 }

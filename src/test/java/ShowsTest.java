@@ -17,7 +17,7 @@ public final class ShowsTest {
 
     private static void dislike() {
         Due.at("promise 11");
-        HoleReel x = new HoleReel();
+        Played x = new Played();
         for (int bad : new int[] {-1, 6, 32, Integer.MIN_VALUE, Integer.MAX_VALUE}) {
             Due.refused(x, "dislike(" + bad + ", true)", Due.BAD_VALUE, r -> r.dislike(bad, true));
             Due.refused(x, "dislike(" + bad + ", false)", Due.BAD_VALUE, r -> r.dislike(bad, false));
@@ -35,7 +35,7 @@ public final class ShowsTest {
 
     private static void set() {
         Due.at("promise 12");
-        HoleReel x = new HoleReel();
+        Played x = new Played();
         for (int bad : new int[] {-1, 2, Integer.MIN_VALUE, Integer.MAX_VALUE}) {
             Due.refused(x, "set(" + bad + ", 4)", Due.BAD_VALUE, r -> r.set(bad, 4));
         }
@@ -59,8 +59,8 @@ public final class ShowsTest {
 
     private static void run() {
         Due.at("promise 13");
-        HoleReel x = new HoleReel();
-        Due.refused(x, "run() of nothing", Due.NOT_POSSIBLE, HoleReel::run);
+        Played x = new Played();
+        Due.refused(x, "run() of nothing", Due.NOT_POSSIBLE, Face::run);
         x.addScene(0, 3);
         x.tear(0, 1, 0);
         x.tear(0, 1, 1);
@@ -82,7 +82,7 @@ public final class ShowsTest {
         Due.due("passes", x.frame(0, 0, 2), 2);
         Due.due("run() again", x.run(), 2);
         x.takeOut(0);
-        Due.refused(x, "run() of the can", Due.NOT_POSSIBLE, HoleReel::run);
+        Due.refused(x, "run() of the can", Due.NOT_POSSIBLE, Face::run);
     }
 
     private static void runWinds() {
@@ -90,7 +90,7 @@ public final class ShowsTest {
         int[] frames = {1, 2, 4, 5, 8, 9, 40};
         int[] units = {1, 1, 1, 2, 2, 3, 10};
         for (int i = 0; i < frames.length; i++) {
-            HoleReel x = new HoleReel();
+            Played x = new Played();
             x.addScene(2, frames[i]);
             x.dislike(2, true);
             x.run();
@@ -100,7 +100,7 @@ public final class ShowsTest {
             Due.due("dark", x.seen(0, units[i] - 1), Due.NONE);
             Due.due("passes", x.frame(0, frames[i] - 1, 2), 1);
         }
-        HoleReel x = new HoleReel();
+        Played x = new Played();
         for (int i = 0; i < 4; i++) {
             x.addScene(i == 1 ? 0 : 1, 2);
             x.tear(i, 0, 3);
@@ -122,7 +122,7 @@ public final class ShowsTest {
 
     private static void runTears() {
         Due.at("promise 13, tears");
-        HoleReel x = new HoleReel();
+        Played x = new Played();
         x.addScene(0, 5);
         x.addScene(1, 1);
         x.dislike(1, true);
@@ -155,26 +155,26 @@ public final class ShowsTest {
 
     private static void runBreaks() {
         Due.at("promise 13, breaks");
-        HoleReel x = new HoleReel();
+        Played x = new Played();
         x.addScene(0, 2);
         x.addScene(1, 2);
         x.addScene(2, 2);
         x.set(1, 2);
         x.run();
         x.run();
-        Due.due("at the limit", Due.reel(x), "0:0-1 1:0-1/2 2:0-1/2");
+        Due.due("at the limit", x.reel(), "0:0-1 1:0-1/2 2:0-1/2");
         Due.due("no break", x.show(1, 6), Due.NONE);
         x.run();
         Due.due("a break", Due.numbersOfShow(x, 2), "[2, 2, 0, 0, 8, 0, 1, 0]");
-        Due.due("behind it all stays", Due.reel(x), "0:0-1 1:0-1/3 2:0-1/2");
+        Due.due("behind it all stays", x.reel(), "0:0-1 1:0-1/3 2:0-1/2");
         Due.due("its passes", x.frame(1, 0, 2), 2);
         Due.due("the passes ahead", x.frame(0, 1, 2), 3);
         x.run();
-        Due.due("again", Due.reel(x), "0:0-1 1:0-1/4 2:0-1/2");
+        Due.due("again", x.reel(), "0:0-1 1:0-1/4 2:0-1/2");
         x.splice(1);
         x.run();
         Due.due("the next splice", x.show(4, 6), 2);
-        Due.due("the next splice", Due.reel(x), "0:0-1 1:0-1/1 2:0-1/3");
+        Due.due("the next splice", x.reel(), "0:0-1 1:0-1/1 2:0-1/3");
         x.dislike(2, true);
         x.run();
         Due.due("a splice breaks ahead of winding", Due.numbersOfShow(x, 5), "[4, 4, 0, 0, 16, 0, 2, 0]");
@@ -182,20 +182,20 @@ public final class ShowsTest {
 
     private static void runIsFull() {
         Due.at("promise 13, full");
-        HoleReel x = new HoleReel();
+        Played x = new Played();
         x.addScene(0, 1);
         for (int show = 0; show < 10; show++) {
             Due.due("run()", x.run(), show);
         }
-        Due.refused(x, "an 11th show", Due.FULL, HoleReel::run);
+        Due.refused(x, "an 11th show", Due.FULL, Face::run);
         Due.due("history", x.count(12), 4);
         x.takeOut(0);
-        Due.refused(x, "an 11th show of nothing", Due.NOT_POSSIBLE, HoleReel::run);
+        Due.refused(x, "an 11th show of nothing", Due.NOT_POSSIBLE, Face::run);
     }
 
     private static void addWitness() {
         Due.at("promise 14");
-        HoleReel x = new HoleReel();
+        Played x = new Played();
         Due.refused(x, "addWitness(0, 0, 1)", Due.UNKNOWN, r -> r.addWitness(0, 0, 1));
         x.addScene(0, 6);
         x.run();

@@ -20,19 +20,19 @@ public final class ToldTest {
         Due.end();
     }
 
-    private static void badWhats(HoleReel x, String call, int highest, int want, Telling telling) {
+    private static void badWhats(Played x, String call, int highest, int want, Telling telling) {
         for (int bad : new int[] {-1, highest + 1, Integer.MIN_VALUE, Integer.MAX_VALUE}) {
             Due.refused(x, call + " what " + bad, want, r -> telling.on(r, bad));
         }
     }
 
     private interface Telling {
-        int on(HoleReel x, int number);
+        int on(Face x, int number);
     }
 
     private static void scene() {
         Due.at("promise 21");
-        HoleReel x = new HoleReel();
+        Played x = new Played();
         x.addScene(5, 9);
         x.addScene(2, 4);
         x.cut(3);
@@ -63,7 +63,7 @@ public final class ToldTest {
 
     private static void sceneInOrder() {
         Due.at("promise 21, order");
-        HoleReel x = new HoleReel();
+        Played x = new Played();
         x.addScene(0, 6);
         x.addScene(0, 2);
         x.cut(2);
@@ -71,7 +71,7 @@ public final class ToldTest {
         x.move(3, 1);
         Due.due("another between", x.scene(0, 5), 1);
         x.move(0, 2);
-        Due.due("the last two turned", Due.reel(x), "1:0-1 0:2-3 0:0-1 0:4-5");
+        Due.due("the last two turned", x.reel(), "1:0-1 0:2-3 0:0-1 0:4-5");
         Due.due("not in order", x.scene(0, 5), 0);
         Due.due("the other scene", x.scene(1, 5), 1);
         x.takeOut(1);
@@ -83,13 +83,13 @@ public final class ToldTest {
         Due.due("three in the can", x.scene(0, 3), 3);
         x.putIn(2, 0);
         x.putIn(1, 2);
-        Due.due("the last ones first", Due.reel(x), "0:4-5 1:0-1 0:0-1");
+        Due.due("the last ones first", x.reel(), "0:4-5 1:0-1 0:0-1");
         Due.due("not in order", x.scene(0, 5), 0);
     }
 
     private static void piece() {
         Due.at("promise 22");
-        HoleReel x = new HoleReel();
+        Played x = new Played();
         x.addScene(0, 5);
         x.addScene(0, 4);
         x.cut(7);
@@ -109,7 +109,7 @@ public final class ToldTest {
 
     private static void canned() {
         Due.at("promise 23");
-        HoleReel x = new HoleReel();
+        Played x = new Played();
         x.addScene(0, 5);
         x.addScene(0, 4);
         x.cut(7);
@@ -128,7 +128,7 @@ public final class ToldTest {
 
     private static void frameAt() {
         Due.at("promise 24");
-        HoleReel x = new HoleReel();
+        Played x = new Played();
         x.addScene(0, 3);
         x.addScene(0, 4);
         x.cut(5);
@@ -145,7 +145,7 @@ public final class ToldTest {
 
     private static void frame() {
         Due.at("promise 25");
-        HoleReel x = new HoleReel();
+        Played x = new Played();
         x.addScene(0, 3);
         x.addScene(0, 4);
         x.cut(5);
@@ -179,8 +179,8 @@ public final class ToldTest {
     }
 
     /** Two shows with a slip and a wound piece; the second one ends at the splice of piece 2. */
-    private static HoleReel twoShows() {
-        HoleReel x = new HoleReel();
+    private static Played twoShows() {
+        Played x = new Played();
         x.addScene(0, 3);
         x.addScene(1, 5);
         x.addScene(2, 1);
@@ -197,7 +197,7 @@ public final class ToldTest {
 
     private static void show() {
         Due.at("promise 26");
-        HoleReel x = twoShows();
+        Played x = twoShows();
         Due.due("show 0", Due.numbersOfShow(x, 0), "[6, 3, 1, 5, 23, 10, -5, 1]");
         Due.due("show 1", Due.numbersOfShow(x, 1), "[5, 2, 1, 5, 19, 10, 2, 1]");
         badWhats(x, "show(1)", 7, Due.BAD_VALUE, (r, what) -> r.show(1, what));
@@ -207,7 +207,7 @@ public final class ToldTest {
 
     private static void seen() {
         Due.at("promise 27");
-        HoleReel x = twoShows();
+        Played x = twoShows();
         int[] units = {0, Due.NONE, 2, Due.NONE, Due.NONE, 200, Due.BAD_VALUE};
         for (int unit = 0; unit < units.length; unit++) {
             Due.due("seen(0, " + unit + ")", x.seen(0, unit), units[unit]);
@@ -217,7 +217,7 @@ public final class ToldTest {
         badWhats(x, "seen(0)", 5, Due.BAD_VALUE, (r, unit) -> r.seen(0, unit));
         badWhats(x, "seen(2)", 5, Due.UNKNOWN, (r, unit) -> r.seen(2, unit));
         badWhats(x, "no show", 1, Due.UNKNOWN, (r, show) -> r.seen(show, 0));
-        HoleReel y = new HoleReel();
+        Played y = new Played();
         for (int i = 0; i < 12; i++) {
             y.addScene(0, 40);
         }
@@ -227,8 +227,8 @@ public final class ToldTest {
         Due.due("behind it", y.seen(0, 480), Due.BAD_VALUE);
     }
 
-    private static HoleReel witnesses() {
-        HoleReel x = twoShows();
+    private static Played witnesses() {
+        Played x = twoShows();
         x.addWitness(0, 0, 3);
         x.addWitness(0, 1, 6);
         x.addWitness(0, 3, 5);
@@ -239,7 +239,7 @@ public final class ToldTest {
 
     private static void witness() {
         Due.at("promise 28");
-        HoleReel x = witnesses();
+        Played x = witnesses();
         int[][] told = {{0, 0, 3, 2, 1, 1}, {0, 1, 6, 2, 3, 5}, {0, 3, 5, 0, 2, 0}, {1, 0, 5, 2, 3, 1},
             {0, 5, 6, 1, 0, 4}};
         for (int witness = 0; witness < 5; witness++) {
@@ -255,7 +255,7 @@ public final class ToldTest {
 
     private static void saw() {
         Due.at("promise 29");
-        HoleReel x = witnesses();
+        Played x = witnesses();
         int[][] told = {{2, 0, 0}, {1, 0, 1}, {0, 0, 0}, {2, 0, 0}, {0, 0, 1}};
         for (int witness = 0; witness < 5; witness++) {
             for (int scene = 0; scene < 3; scene++) {
@@ -270,7 +270,7 @@ public final class ToldTest {
 
     private static void differ() {
         Due.at("promise 30");
-        HoleReel x = witnesses();
+        Played x = witnesses();
         int[][] told = {{0, 1, 1, -4, 2}, {1, 0, 2, -4, 1}, {1, 2, 0, -4, 1}, {-4, -4, -4, 0, -4},
             {2, 1, 1, -4, 0}};
         for (int witness = 0; witness < 5; witness++) {
@@ -286,11 +286,11 @@ public final class ToldTest {
 
     private static void next() {
         Due.at("promise 31");
-        HoleReel x = new HoleReel();
+        Played x = new Played();
         Due.refused(x, "next(0) of nothing", Due.NOT_POSSIBLE, r -> r.next(0));
-        badWhats(x, "next of nothing", 7, Due.BAD_VALUE, HoleReel::next);
+        badWhats(x, "next of nothing", 7, Due.BAD_VALUE, Face::next);
         x = twoShows();
-        badWhats(x, "next", 7, Due.BAD_VALUE, HoleReel::next);
+        badWhats(x, "next", 7, Due.BAD_VALUE, Face::next);
         for (int show = 2; show < 10; show++) {
             String told = Due.numbersOfNext(x);
             Due.due("next twice", Due.numbersOfNext(x), told);
@@ -314,7 +314,7 @@ public final class ToldTest {
 
     private static void count() {
         Due.at("promise 32");
-        HoleReel x = witnesses();
+        Played x = witnesses();
         x.cut(2);
         x.takeOut(1);
         Due.write(x, "c1;");
@@ -322,8 +322,8 @@ public final class ToldTest {
         for (int what = 0; what < counts.length; what++) {
             Due.due("count(" + what + ")", x.count(what), counts[what]);
         }
-        badWhats(x, "count", 13, Due.BAD_VALUE, HoleReel::count);
-        HoleReel y = new HoleReel();
+        badWhats(x, "count", 13, Due.BAD_VALUE, Face::count);
+        Played y = new Played();
         y.addScene(0, 1);
         y.addScene(0, 1);
         y.addScene(0, 1);
