@@ -96,6 +96,7 @@ public final class FilmTest {
         Due.refused(x, "a 21st piece", Due.FULL, r -> r.cut(1));
         Due.refused(x, "no 21st piece", Due.NONE, r -> r.cut(2));
         Due.refused(x, "no such place", Due.BAD_VALUE, r -> r.cut(40));
+        Due.refused(x, "join the last of 20", Due.NOT_POSSIBLE, r -> r.join(19));
     }
 
     private static void join() {

@@ -191,6 +191,13 @@ public final class ShowsTest {
         Due.due("history", x.count(12), 4);
         x.takeOut(0);
         Due.refused(x, "an 11th show of nothing", Due.NOT_POSSIBLE, Face::run);
+        Played y = new Played();
+        y.addScene(0, 20);
+        for (int i = 1; i < 20; i++) {
+            y.cut(i);
+        }
+        Due.due("run() of 20 pieces", y.run(), 0);
+        Due.due("the splice of the last one", y.piece(19, 4), 1);
     }
 
     private static void addWitness() {
