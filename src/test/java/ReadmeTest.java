@@ -133,7 +133,8 @@ public final class ReadmeTest {
     }
 
     private static boolean isAct(String document, String name) {
-        Matcher matcher = Pattern.compile("(?ms)^## Promise \\d+: " + name + "$(.*?)(?=^## |\\z)").matcher(document);
+        String promise = "(?ms)^## Promise \\d+: " + name + "$(.*?)(?=^## |\\z)";
+        Matcher matcher = Pattern.compile(promise).matcher(document);
         return matcher.find() && matcher.group(1).matches("(?s).*This is (an|one) act\\..*");
     }
 
